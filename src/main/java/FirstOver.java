@@ -95,12 +95,9 @@ public final class FirstOver {
   private static final int OPEN_VAR = 7;
   private static final int LEARNT_VAR = 8;
 
-  private final byte[] tape;
-  private int tapeLength;
-  private int faultPlace;
   private final Reader reader;
+  private int faultPlace;
   private Text text;
-  private Text spare;
   private final Going now;
   private final Keeper keeper;
   private final History history;
@@ -111,12 +108,9 @@ public final class FirstOver {
   private final Cheated cheated;
 
   public FirstOver() {
-    tape = new byte[MOST_BYTES];
-    tapeLength = 0;
-    faultPlace = NONE;
     reader = new Reader();
+    faultPlace = NONE;
     text = new Text();
-    spare = new Text();
     now = new Going();
     keeper = new Keeper();
     history = new History();
@@ -133,43 +127,33 @@ public final class FirstOver {
   // ---- the tape and the text
 
   public int feed(int a, int b, int c, int d, int e) {
-    if (tapeLength > MOST_BYTES - BYTES_FED) {
+    Tape tape = reader.tape;
+    if (tape.length > MOST_BYTES - BYTES_FED) {
       return NONE;
     }
-    putFourBytes(a);
-    putFourBytes(b);
-    putFourBytes(c);
-    putFourBytes(d);
-    putFourBytes(e);
-    return tapeLength;
-  }
-
-  private void putFourBytes(int word) {
-    for (int shift = 24; shift >= 0; shift -= 8) {
-      if (tapeLength < tape.length) {
-        tape[tapeLength] = (byte) (word >>> shift);
-        tapeLength++;
-      }
-    }
+    tape.put(a);
+    tape.put(b);
+    tape.put(c);
+    tape.put(d);
+    tape.put(e);
+    return tape.length;
   }
 
   public int back(int n) {
-    if (n < 0 || n > tapeLength) {
+    if (n < 0 || n > reader.tape.length) {
       return NONE;
     }
-    tapeLength -= n;
-    return tapeLength;
+    reader.tape.length -= n;
+    return reader.tape.length;
   }
 
   public int read() {
-    reader.start(tape, tapeLength, spare);
+    reader.start();
     int fault = reader.readTells();
-    tapeLength = 0;
+    reader.tape.length = 0;
     faultPlace = fault == 0 ? NONE : reader.place;
     if (fault == 0) {
-      Text last = text;
-      text = spare;
-      spare = last;
+      text = reader.swapText(text);
       now.startFrom(text);
       history.steps = 0;
       told.many = 0;
@@ -561,7 +545,7 @@ public final class FirstOver {
       case 10:
         return now.timesCheated;
       case 11:
-        return tapeLength;
+        return reader.tape.length;
       case 12:
         return history.steps;
       case 13:
@@ -575,19 +559,22 @@ public final class FirstOver {
     }
   }
 
-  /** The tape cut into TOKENS: at most one more than a text may have, so that it can be told. */
-  private static final class Tokens {
+  /**
+   * The tape and the TOKENS that it is cut into: at most one more than a text may have, so that it
+   * can be told.
+   */
+  private static final class Tape {
+    int length;
     final int[] kinds = new int[MOST_TOKENS + 2];
     final int[] places = new int[MOST_TOKENS + 2];
     /** A NAME as a number of base 32, an INT's value. */
     final long[] values = new long[MOST_TOKENS + 2];
 
     private final long[] words = new long[WORD_COUNT];
-    private byte[] bytes;
-    private int length;
+    private final byte[] bytes = new byte[MOST_BYTES];
     private int at;
 
-    Tokens() {
+    Tape() {
       for (int word = 0; word < WORD_COUNT; word++) {
         for (int i = word * WORD_LENGTH; i < (word + 1) * WORD_LENGTH; i++) {
           if (i < WORDS.length() && isLetter(WORDS.charAt(i))) {
@@ -597,9 +584,17 @@ public final class FirstOver {
       }
     }
 
-    void cut(byte[] tape, int tapeLength) {
-      bytes = tape;
-      length = Math.min(tapeLength, tape.length);
+    /** Puts four bytes behind the others, the highest first. */
+    void put(int word) {
+      for (int shift = 24; shift >= 0; shift -= 8) {
+        if (length < bytes.length) {
+          bytes[length] = (byte) (word >>> shift);
+          length++;
+        }
+      }
+    }
+
+    void cut() {
       at = 0;
       skipBlanks();
       int many = 0;
@@ -704,6 +699,7 @@ public final class FirstOver {
     /** Left of an 'or', left of an 'and', for each ( and for none, and one that is read. */
     private static final int MOST_TABLES = 2 * (MOST_NESTED + 1) + 1;
 
+    final Tape tape = new Tape();
     int place;
     private int fault;
     private int notedFault;
@@ -714,22 +710,32 @@ public final class FirstOver {
     private int trait;
     private Text text;
     private Law law;
-    private final Tokens tokens = new Tokens();
     private final long[] names = new long[MOST_NAMES];
     private int nameCount;
     private final long[] traitNames = new long[MOST_TRAITS];
     private final long[] tables = new long[MOST_TABLES * Text.TABLE];
     private int top;
 
-    void start(byte[] tape, int length, Text into) {
-      text = into;
+    Reader() {
+      text = new Text();
+      law = text.wearsLaw;
+    }
+
+    /** Gives out the text that was read, and takes another one, which the next is read into. */
+    Text swapText(Text other) {
+      Text read = text;
+      text = other;
+      return read;
+    }
+
+    void start() {
       text.clear();
-      tokens.cut(tape, length);
+      tape.cut();
       fault = 0;
       notedFault = 0;
       nameCount = 0;
       at = 0;
-      kind = tokens.kinds[0];
+      kind = tape.kinds[0];
     }
 
     /** The number of the FAULT, which stands at the place; 0 without. */
@@ -778,29 +784,29 @@ public final class FirstOver {
 
     private boolean refuse(int what) {
       fault = what;
-      place = tokens.places[at];
+      place = tape.places[at];
       return false;
     }
 
     private void note(int what) {
       if (notedFault == 0) {
         notedFault = what;
-        notedPlace = tokens.places[at];
+        notedPlace = tape.places[at];
       }
     }
 
-    /** Goes on behind a TOKEN of that kind; none is passed behind the last one there is room for. */
+    /** Goes on behind a TOKEN of that kind, if there is room for it. */
     private boolean pass(int wanted) {
       if (kind != wanted || at >= MOST_TOKENS) {
         return refuse(kind != wanted ? SYNTAX : ROOM);
       }
       at++;
-      kind = tokens.kinds[at];
+      kind = tape.kinds[at];
       return true;
     }
 
     private long valueHere() {
-      return tokens.values[at];
+      return tape.values[at];
     }
 
     private boolean readTrait() {
@@ -1182,13 +1188,24 @@ public final class FirstOver {
 
     /** For how many sets of the TRAITS that there are the CLAUSES of both BRIDGES hold. */
     int setsOfBoth(int bridge, int other) {
+      if (!hasBridge(bridge) || !hasBridge(other)) {
+        return 0;
+      }
       int many = 0;
-      for (int set = 0; set < setCount(); set++) {
-        if (clauseHolds(bridge, set) && clauseHolds(other, set)) {
-          many++;
-        }
+      for (int i = 0; i < TABLE; i++) {
+        long both = clauses[bridge * TABLE + i] & clauses[other * TABLE + i];
+        many += Long.bitCount(both & setsThere(i));
       }
       return many;
+    }
+
+    /** Of the table of all sets of the TRAITS that there are the i-th long. */
+    private long setsThere(int i) {
+      int behind = setCount() - i * 64;
+      if (behind <= 0) {
+        return 0L;
+      }
+      return behind >= 64 ? -1L : (1L << behind) - 1;
     }
 
     /** Of the table of all sets that have a TRAIT the i-th long. */
@@ -1540,6 +1557,8 @@ public final class FirstOver {
     /** More than any plan costs, and so small that a few of it can be added up. */
     private static final int TOO_MUCH = 1000000;
 
+    private static final int CROWDS = 1 << MOST_BEINGS;
+
     int cheapLost;
     int cheapBeing;
     int cheapWay;
@@ -1547,53 +1566,91 @@ public final class FirstOver {
     final int[] bestBeing = new int[MOST_BRIDGES];
     final int[] bestWay = new int[MOST_BRIDGES];
 
-    private Text text;
-    /** What he has learnt by then, and who is left by then. */
+    /** Who is left and what he has learnt by then. */
     private final Going then = new Going();
 
     private final int[] tryBeing = new int[MOST_BRIDGES];
     private final int[] tryWay = new int[MOST_BRIDGES];
-    /** What this BRIDGE and those behind it cost at least, were each alone. */
-    private final int[] atLeast = new int[MOST_BRIDGES + 1];
+    private final int[] price = new int[MOST_BEINGS];
+    /**
+     * By a BRIDGE and those who are left (bits): what it and those behind it cost at least, were
+     * nothing more learnt. It keeps the search for all short.
+     */
+    private final int[] atLeast = new int[(MOST_BRIDGES + 1) * CROWDS];
 
-    boolean findCheapest(Text told, Going going, int bridge) {
+    boolean findCheapest(Text text, Going going, int bridge) {
       cheapLost = TOO_MUCH;
-      for (int being = 0; being < told.beings; being++) {
-        for (int way = NONE; way < told.ways && going.isThere(being); way++) {
-          int lost = told.loss[being] + told.costOf(way);
-          if (lost < cheapLost && going.takes(told, bridge, told.setOf(being, way))) {
-            cheapLost = lost;
-            cheapBeing = being;
-            cheapWay = way;
-          }
+      for (int being = 0; being < text.beings; being++) {
+        int way = cheapestWay(text, going, bridge, being);
+        int lost = text.loss[being] + text.costOf(way);
+        if (way != NOT_SO && going.isThere(being) && lost < cheapLost) {
+          cheapLost = lost;
+          cheapBeing = being;
+          cheapWay = way;
         }
       }
       return cheapLost < TOO_MUCH;
     }
 
-    boolean findForAll(Text told, Going going) {
-      text = told;
-      then.copyFrom(going);
-      leastLost = TOO_MUCH;
-      atLeast[told.bridges] = 0;
-      for (int bridge = told.bridges - 1; bridge >= 0; bridge--) {
-        atLeast[bridge] = atLeast[bridge + 1];
-        if (going.phase[bridge] == CLOSED) {
-          findCheapest(told, going, bridge);
-          atLeast[bridge] += cheapLost;
+    /** The WAY of least COST by which a BEING is TAKEN, none first; NOT_SO: there is none. */
+    private static int cheapestWay(Text text, Going going, int bridge, int being) {
+      int best = NOT_SO;
+      for (int way = NONE; way < text.ways; way++) {
+        boolean isBetter = best == NOT_SO || text.costOf(way) < text.costOf(best);
+        if (isBetter && going.takes(text, bridge, text.setOf(being, way))) {
+          best = way;
         }
       }
-      if (atLeast[0] < TOO_MUCH) {
-        choose(0, 0);
+      return best;
+    }
+
+    boolean findForAll(Text text, Going going) {
+      then.copyFrom(going);
+      leastLost = TOO_MUCH;
+      int crowds = 1 << text.beings;
+      Arrays.fill(atLeast, text.bridges * CROWDS, text.bridges * CROWDS + crowds, 0);
+      for (int bridge = text.bridges - 1; bridge >= 0; bridge--) {
+        if (then.phase[bridge] == CLOSED) {
+          lookUpPrices(text, bridge);
+          for (int left = 0; left < crowds; left++) {
+            atLeast[bridge * CROWDS + left] = leastFrom(bridge, left);
+          }
+        } else {
+          System.arraycopy(atLeast, (bridge + 1) * CROWDS, atLeast, bridge * CROWDS, crowds);
+        }
+      }
+      if (atLeast[then.there] < TOO_MUCH) {
+        choose(text, 0, 0);
       }
       return leastLost < TOO_MUCH;
+    }
+
+    private void lookUpPrices(Text text, int bridge) {
+      Arrays.fill(price, TOO_MUCH);
+      for (int being = 0; being < text.beings; being++) {
+        int way = cheapestWay(text, then, bridge, being);
+        if (way != NOT_SO) {
+          price[being] = text.loss[being] + text.costOf(way);
+        }
+      }
+    }
+
+    private int leastFrom(int bridge, int left) {
+      int least = TOO_MUCH;
+      for (int being = 0; being < MOST_BEINGS; being++) {
+        if ((left >>> being & 1) != 0) {
+          int behind = atLeast[(bridge + 1) * CROWDS + (left & ~(1 << being))];
+          least = Math.min(least, price[being] + behind);
+        }
+      }
+      return least;
     }
 
     /**
      * Goes through the choices for this BRIDGE and those behind it in the order in which alike ones
      * count, so that only a better one takes the place of the best.
      */
-    private void choose(int bridge, int lost) {
+    private void choose(Text text, int bridge, int lost) {
       if (bridge >= text.bridges) {
         leastLost = lost;
         System.arraycopy(tryBeing, 0, bestBeing, 0, MOST_BRIDGES);
@@ -1601,31 +1658,32 @@ public final class FirstOver {
         return;
       }
       if (then.phase[bridge] != CLOSED) {
-        choose(bridge + 1, lost);
+        choose(text, bridge + 1, lost);
         return;
       }
       for (int being = 0; being < text.beings; being++) {
+        int behind = atLeast[(bridge + 1) * CROWDS + (then.there & ~(1 << being))];
         for (int way = NONE; way < text.ways && then.isThere(being); way++) {
-          int more = text.loss[being] + text.costOf(way);
+          int lostThen = lost + text.loss[being] + text.costOf(way);
           int set = text.setOf(being, way);
-          if (lost + more + atLeast[bridge + 1] < leastLost && then.takes(text, bridge, set)) {
+          if (lostThen + behind < leastLost && then.takes(text, bridge, set)) {
             tryBeing[bridge] = being;
             tryWay[bridge] = way;
-            chooseBehind(bridge, lost + more, set);
+            chooseBehind(text, bridge, lostThen, set);
           }
         }
       }
     }
 
     /** Goes on to the next BRIDGE, as if the set had gone over this one. */
-    private void chooseBehind(int bridge, int lost, int set) {
+    private void chooseBehind(Text text, int bridge, int lost, int set) {
       int thereBefore = then.there;
       int learntBefore = then.learntCount;
       then.there &= ~(1 << tryBeing[bridge]);
       if ((set & SOUL) == 0) {
         then.learn(set);
       }
-      choose(bridge + 1, lost);
+      choose(text, bridge + 1, lost);
       then.there = thereBefore;
       then.learntCount = learntBefore;
     }
