@@ -3,16 +3,22 @@ final class Checks {
   private int wrong = 0;
   private int looked = 0;
   private final String name;
+  private String sentence = "";
 
   Checks(String name) {
     this.name = name;
+  }
+
+  /** The words of the document that the answers behind it are due by. */
+  void says(String words) {
+    sentence = " ('" + words + "')";
   }
 
   void due(String what, long got, long want) {
     looked++;
     if (got != want) {
       wrong++;
-      System.out.println(name + ": " + what + " answered " + got + ", due is " + want);
+      System.out.println(name + ": " + what + " answered " + got + ", due is " + want + sentence);
     }
   }
 
