@@ -160,6 +160,7 @@ public final class EdgesTest {
     bridge();
     taken();
     send();
+    openOrFallen();
     mend();
     years();
     undo();
@@ -570,6 +571,49 @@ public final class EdgesTest {
     due("FALLEN", z.send(0, 1, NONE), -2);
   }
 
+  private static void openOrFallen() {
+    says("(the BRIDGE OPEN or not): what is asked of a BRIDGE is told though it is OPEN, FALLEN");
+    for (int phase = 0; phase <= 2; phase++) {
+      FirstOver x = Checks.of("trait s; trait a; being p 1 s; being q 3 a; being r 2 s a; way w 0 drops s;"
+          + "bridge b 1 5 = s or a; bridge c 9 9 = a;");
+      if (phase > 0) {
+        x.send(0, 0, NONE);
+      }
+      x.years(1);
+      due("phase", x.bridge(0, 2), phase == 0 ? 0 : 2);
+      if (phase == 1) {
+        x.undo();
+      }
+      due("phase", x.bridge(0, 2), phase);
+      due("LOAD", x.bridge(0, 1), 5);
+      due("WEARS", x.bridge(0, 4), 1);
+      due("MENDS", x.bridge(0, 5), 1);
+      due("sets", x.bridge(0, 6), 3);
+      due("asks", x.asks(0, 1), 3);
+      due("holds", x.holds(0, 2), 1);
+      due("taken", x.taken(0, 1, NONE), 0);
+      due("taken", x.taken(0, 0, 0), 1);
+      due("cheap", x.cheap(0, 0), phase == 0 ? 1 : 2);
+      due("cheap's BEING", x.cheap(0, 1), phase == 0 ? 0 : 2);
+      due("cheap's WAY", x.cheap(0, 2), 9);
+      due("cheats: q twice, r by the WAY", x.cheats(0), 3);
+      due("bar", x.bar(0, 0), 1);
+      due("bar", x.bar(0, 1), 3);
+      due("shuts", x.shuts(0, NONE), 1);
+      due("shuts", x.shuts(0, 0), 1);
+      due("alike", x.alike(0, 1, 0), 0);
+      due("alike", x.alike(0, 1, 1), 2);
+      due("went: p, q twice, r twice", x.went(0, 0), 5);
+      due("sure", x.sure(0, 0), -2);
+      due("ask: s 2 or 3, a 4 or 1", x.ask(0, 0), 0);
+      due("stonesIn", x.stonesIn(0, 0), phase == 2 ? 0 : 1);
+      due("stands", x.stands(0), phase == 1 ? 1 : -2);
+      due("year", x.year(0, 0, 5), phase == 1 ? 5 : 0);
+      due("all", x.all(0, 0), phase == 0 ? 0 : -3);
+      due("openIn", x.openIn(0), phase == 1 ? 1 : 0);
+    }
+  }
+
   private static void mend() {
     says("MENDED: STONES then; -2, and nothing happens: not OPEN, 99");
     FirstOver x = Checks.of("trait s; being p 0 s; bridge b 1 0 = s; mends = 1;");
@@ -737,6 +781,7 @@ public final class EdgesTest {
       x.years(9);
       due("undo then", x.undo(), true);
     }
+    slotsOfFour();
     says("a SLOT that holds something holds what is held last");
     x.restore(1);
     due("hold(0)", x.hold(0), true);
@@ -759,6 +804,53 @@ public final class EdgesTest {
     due("restore(1)", y.restore(1), true);
     due("TOLD", y.count(13), 1);
     due("tape", y.count(11), 1);
+  }
+
+  /** The last BRIDGE and the sets that were learnt are undone and held as all else. */
+  private static void slotsOfFour() {
+    says("All that goes on is held, is undone: of each BRIDGE, of each set");
+    FirstOver x = Checks.of("trait s; trait a; trait b; being p 1 a; being q 1 b; being r 1 a b; being u 1; being v 1 s;"
+        + "bridge c 9 0 = s or not s; bridge d 9 0 = s or not s; bridge e 9 0 = s or not s; bridge f 9 0 = s or not s;");
+    due("CHEATED by p", x.send(3, 0, NONE), 2);
+    x.mend(3);
+    x.years(2);
+    x.hold(0);
+    due("STONES", x.bridge(3, 0), 7);
+    due("undo", x.undo(), true);
+    due("STONES", x.bridge(3, 0), 9);
+    due("stood", x.bridge(3, 3), 0);
+    due("undo", x.undo(), true);
+    due("STONES", x.bridge(3, 0), 8);
+    due("undo", x.undo(), true);
+    due("not OPEN", x.bridge(3, 2), 0);
+    due("STONES", x.bridge(3, 0), 9);
+    due("CHEATED by q", x.send(3, 1, NONE), 2);
+    due("q's set is learnt", x.taken(0, 1, NONE), 2);
+    due("p's is not", x.taken(0, 0, NONE), 0);
+    due("restore(0)", x.restore(0), true);
+    due("p's set is learnt", x.taken(0, 0, NONE), 2);
+    due("q's is not", x.taken(0, 1, NONE), 0);
+    due("OPEN", x.bridge(3, 2), 1);
+    due("stood", x.bridge(3, 3), 2);
+    due("STONES", x.bridge(3, 0), 7);
+    for (int bridge = 0; bridge < 3; bridge++) {
+      due("CHEATED", x.send(bridge, bridge + 1, NONE), 2);
+    }
+    due("four are learnt", x.count(9), 4);
+    x.hold(1);
+    due("restore(0)", x.restore(0), true);
+    due("with a soul", x.send(0, 4, NONE), 1);
+    due("restore(1)", x.restore(1), true);
+    for (int being = 0; being < 4; being++) {
+      due("each set is learnt", x.taken(0, being, NONE), 2);
+    }
+    due("with a soul", x.taken(0, 4, NONE), 0);
+    x.years(60);
+    due("all FALLEN", x.count(7), 15);
+    due("undo", x.undo(), true);
+    due("all OPEN", x.count(6), 15);
+    due("restore(0)", x.restore(0), true);
+    due("the last OPEN", x.count(6), 8);
   }
 
   private static String fateOf(int steps) {

@@ -70,6 +70,7 @@ public final class TermsTest {
     least();
     changesNothing();
     inPlace();
+    readBehindOthers();
     lawsAndIfs();
     wraps();
     divisions();
@@ -315,6 +316,15 @@ public final class TermsTest {
     due("no STORM", plain.count(15), 0);
     due("the last STORM", good("storm 0; storm 100;").count(15), 1);
     due("the last STORM", good("storm 100; storm 0;").count(15), 0);
+    FirstOver untold = good("storm 50; seed 4321;");
+    for (String text : new String[] {"storm 50; seed 1234;", "storm 50;"}) {
+      Checks.put(untold, text);
+      due("read()", untold.read(), 0);
+    }
+    for (int year = 0; year < 60; year++) {
+      due("SEED 0 if not told", untold.count(15), lot(100, 0, 4L * year) < 50 ? 1 : 0);
+      untold.years(1);
+    }
     int year = 0;
     while (lot(100, 0, 4L * year) == lot(100, 5, 4L * year)) {
       year++;
@@ -371,6 +381,7 @@ public final class TermsTest {
     bad("wears=" + "1+".repeat(198) + "1;|x", 1);
     bad("wears=" + "1+".repeat(198) + "1;|?", 1);
     bad(tokens + "seed|", 1);
+    roomAtEach();
     says("ROOM: a 5th if of a LAW (at it)");
     String branch = "if 1<2 then 3 else ";
     for (String law : new String[] {"wears", "mends", "asks"}) {
@@ -398,9 +409,69 @@ public final class TermsTest {
     bad(clause + "not ".repeat(6) + "|not a;", 2);
     bad(clause + "a or (a and " + "not ".repeat(6) + "|not", 2);
     good(clause + "not ".repeat(6) + "(" + "not ".repeat(6) + "a) or " + "not ".repeat(6) + "a;");
+    deepest();
     says("ROOM: a text of both the most ( and the most 'not'");
     due("six of six", good(clause + "(not not not not not not ".repeat(6) + "a" + ")".repeat(6) + ";").holds(0, 1), 1);
     due("and one more", good(clause + "(not not not not not not ".repeat(5) + "(not a" + ")".repeat(6) + ";").holds(0, 1), 0);
+  }
+
+  /** As much as can wait for what is within the ( . */
+  private static void deepest() {
+    says("six ( within one another, with an 'or' and an 'and' ahead of each");
+    String two = "trait a; trait b; bridge c 1 0 = ";
+    FirstOver x = good(two + "b or a and (".repeat(6) + "b or a and not b" + ")".repeat(6) + ";");
+    int[] either = {0, 1, 1, 1};
+    FirstOver y = good(two + "b and a or not a and (".repeat(6) + "b or not b" + ")".repeat(6) + ";");
+    int[] other = {1, 0, 1, 1};
+    FirstOver z = good(two + "a and not b or a and (".repeat(6) + "a and b or a and b" + ")".repeat(6) + ";");
+    int[] third = {0, 1, 0, 1};
+    for (int set = 0; set < 4; set++) {
+      due("the deepest of " + set, x.holds(0, set), either[set]);
+      due("the deepest of " + set, y.holds(0, set), other[set]);
+      due("the deepest of " + set, z.holds(0, set), third[set]);
+    }
+    says("six ( within one another, with a '-' and a '*' ahead of each");
+    // 5 - 2 * 2 is 1, and 3 - 2 * 1 is 1 again.
+    wears("3 - 2 * (".repeat(6) + "5 - 2 * 2" + ")".repeat(6), 1);
+    wears("9 - 2 * (" + "3 - 2 * (".repeat(5) + "5 - 2 * 2" + ")".repeat(6), 7);
+  }
+
+  /** So many TOKENS that tell nothing but a LAW and a SEED: six at least. */
+  private static String tokens(int many) {
+    int laws = many % 3;
+    return "wears=1;".repeat(laws) + "seed 1;".repeat((many - 4 * laws) / 3);
+  }
+
+  /** Whichever TOKEN of a TELL is the 401st, the FAULT stands at it. */
+  private static void roomAtEach() {
+    String[] tells = {
+      "trait x ;",
+      "being x 1 ;",
+      "trait y ; being x 1 y y y ;",
+      "way x 1 ;",
+      "trait y ; way x 1 gives y drops y gives y ;",
+      "trait y ; bridge x 1 1 = y ;",
+      "trait y ; bridge x 1 1 = not not ( y and y or not y ) or ( y and ( y ) ) ;",
+      "wears = 1 ;",
+      "mends = ( stones + 1 ) * load - 7 / ( 2 - ( year ) ) ;",
+      "asks = if loss < many * 2 then ( loss ) + 1 else if 1 < 2 then 3 else 4 - 1 ;",
+      "storm 1 ;",
+      "seed 1 ;"
+    };
+    for (String tell : tells) {
+      String[] parts = tell.split(" ");
+      good(tokens(400 - parts.length) + tell);
+      for (int ahead = 0; ahead < parts.length; ahead++) {
+        StringBuilder text = new StringBuilder(tokens(400 - ahead));
+        StringBuilder wrong = new StringBuilder(text);
+        for (int i = 0; i < parts.length; i++) {
+          text.append(i == ahead ? "|" : "").append(parts[i]).append(' ');
+          wrong.append(i == ahead ? "|? " : "").append(parts[i]).append(' ');
+        }
+        bad(text.toString(), 2);
+        bad(wrong.toString(), 1);
+      }
+    }
   }
 
   private static void twiceAndName() {
@@ -414,6 +485,7 @@ public final class TermsTest {
       }
     }
     bad("trait s; trait |s; trait s;", 3);
+    twiceOfMost();
     says("NAME: (at it) no such TRAIT told ahead");
     bad("being b 1 |a; trait a;", 4);
     bad("way w 1 gives |a; trait a;", 4);
@@ -428,6 +500,22 @@ public final class TermsTest {
     says("a NAME told more than once is that of the first one");
     bad("being x 1; trait |x; being y 1 x;", 3);
     bad("trait a; trait b; trait |a; being y 1 a;", 3);
+  }
+
+  /** Each of the 23 NAMES that a text can tell, told once more in place of each later one. */
+  private static void twiceOfMost() {
+    String[] tells = FULL.split("(?<=;)");
+    for (int first = 0; first < tells.length; first++) {
+      for (int next = first + 1; next < tells.length; next++) {
+        StringBuilder text = new StringBuilder();
+        for (int i = 0; i < tells.length; i++) {
+          String name = tells[i].split("[ ;]")[1];
+          String other = tells[first].split("[ ;]")[1];
+          text.append(i == next ? tells[i].replaceFirst(" " + name, " |" + other) : tells[i]);
+        }
+        bad(text.toString(), 3);
+      }
+    }
   }
 
   private static void least() {
@@ -534,6 +622,42 @@ public final class TermsTest {
       due("nothing TOLD", x.forget(), 0);
       for (int slot = 0; slot < 3; slot++) {
         due("SLOT " + slot, x.restore(slot), false);
+      }
+    }
+  }
+
+  /** Whatever was read ahead, good or not, a text is read as by a new object. */
+  private static void readBehindOthers() {
+    says("else it is in place of the one ahead");
+    String[] texts = {
+      "",
+      TOWN,
+      FULL + "wears = 1 / 0; mends = 1 / 0; asks = 1 / 0; storm 100; seed 9999;",
+      "trait s; being p 9 s; bridge b 9 9 = s;",
+      "wears = 3 + 1; wears = 2;",
+      "trait a; trait b; being c 1 b; way d 1 gives b; bridge e 4 4 = b; wears = 7; mends = 7; asks = 7; storm 9; ?",
+      FULL + "wears = 1 / 0; trait x;",
+      "trait s; trait p; trait b; trait x; trait x; storm 50; mends = 1 / 0;",
+      "bridge z 1 1 = nobody; wears = (1 / 0) / 0; seed 50;",
+    };
+    String[] alone = new String[texts.length];
+    for (int i = 0; i < texts.length; i++) {
+      FirstOver x = new FirstOver();
+      Checks.put(x, texts[i]);
+      alone[i] = x.read() == 0 ? state(x) : "";
+    }
+    for (int first = 0; first < texts.length; first++) {
+      for (int next = 0; next < texts.length; next++) {
+        for (int last = 0; last < texts.length; last++) {
+          FirstOver x = new FirstOver();
+          String then = state(x);
+          for (int i : new int[] {first, next, last}) {
+            Checks.put(x, texts[i]);
+            due("read() of " + i, x.read() == 0, alone[i].length() > 0);
+            then = alone[i].length() > 0 ? alone[i] : then;
+            due("text " + i + " of " + first + ", " + next + ", " + last, state(x).equals(then), true);
+          }
+        }
       }
     }
   }
@@ -667,6 +791,8 @@ public final class TermsTest {
     says("loss, many: 0, but for ASKS: LOSS and how many TRAITS of a BEING");
     wears("loss + many", 0);
     mends("loss + many", 0);
+    wears("5 + loss + 2 * many", 5);
+    mends("50 + loss + 2 * many", 50);
     asks("loss", 0, 7);
     asks("loss", 1, 30);
     asks("many", 0, 1);
@@ -675,7 +801,25 @@ public final class TermsTest {
     FirstOver z = withLaw("wears = loss + many; mends = loss + many");
     z.asks(0, 2);
     due("not from an ASKS ahead", z.bridge(0, 4), 0);
+    z.asks(0, 2);
     due("not from an ASKS ahead", z.bridge(0, 5), 0);
+    says("Of a BRIDGE: whichever was looked at ahead");
+    FirstOver w = withLaw("wears = which + 1; mends = which + 1; asks = which + 1");
+    for (int ahead = 0; ahead < 2; ahead++) {
+      for (int bridge = 0; bridge < 2; bridge++) {
+        w.bridge(ahead, 4);
+        due("MENDS behind WEARS", w.bridge(bridge, 5), bridge + 1);
+        w.bridge(ahead, 5);
+        due("ASKS behind MENDS", w.asks(bridge, 0), bridge + 1);
+        w.asks(ahead, 0);
+        due("WEARS behind ASKS", w.bridge(bridge, 4), bridge + 1);
+      }
+    }
+    w.send(0, 0, -1);
+    w.send(1, 2, -1);
+    w.bridge(0, 4);
+    w.mend(1);
+    due("lost by MENDS of the second", w.count(5), 7 + 99 + 2);
   }
 
   private static void held() {
@@ -762,6 +906,7 @@ public final class TermsTest {
       }
       due("sets of " + bridge, x.bridge(bridge, 6), many);
     }
+    ofEight();
     says("a CLAUSE that holds for no set, for all");
     FirstOver y = good("trait a; bridge p 1 0 = a and not a; bridge q 1 0 = a or not a;");
     due("for none", y.bridge(0, 6), 0);
@@ -770,6 +915,37 @@ public final class TermsTest {
     due("for all 256", z.bridge(0, 6), 256);
     due("for none of 256", z.bridge(1, 6), 0);
     due("the last set", z.holds(0, 255), 1);
+  }
+
+  private static void ofEight() {
+    says("A CLAUSE of eight TRAITS, for each of their 256 sets");
+    FirstOver x = good(many("trait", 8, ";") + "bridge p 1 0 = ta or tb and (tc or not td and th) or tg and not (te or tf);"
+        + "bridge q 1 0 = th and (tg or (tf and (te or not td))) and not (ta and tb and tc);");
+    int first = 0;
+    int second = 0;
+    for (int set = 0; set < 256; set++) {
+      boolean[] has = new boolean[8];
+      for (int trait = 0; trait < 8; trait++) {
+        has[trait] = (set >> trait & 1) != 0;
+      }
+      boolean p = has[0] || has[1] && (has[2] || !has[3] && has[7]) || has[6] && !(has[4] || has[5]);
+      boolean q = has[7] && (has[6] || has[5] && (has[4] || !has[3])) && !(has[0] && has[1] && has[2]);
+      due("holds(0, " + set + ")", x.holds(0, set), p ? 1 : 0);
+      due("holds(1, " + set + ")", x.holds(1, set), q ? 1 : 0);
+      first += p ? 1 : 0;
+      second += q ? 1 : 0;
+    }
+    due("bridge(0, 6)", x.bridge(0, 6), first);
+    due("bridge(1, 6)", x.bridge(1, 6), second);
+    for (int traits = 1; traits <= 8; traits++) {
+      String told = many("trait", traits, ";");
+      FirstOver y = good(told + "bridge p 1 0 = ta or not ta; bridge q 1 0 = ta;");
+      due("for all sets of " + traits, y.bridge(0, 6), 1 << traits);
+      due("for half the sets of " + traits, y.bridge(1, 6), 1 << traits - 1);
+      due("for half the sets of " + traits, y.alike(0, 1, 1), 1 << traits - 1);
+      due("the last set", y.holds(0, (1 << traits) - 1), 1);
+      due("no such set", y.holds(0, 1 << traits), -1);
+    }
   }
 
   private static void sent() {
@@ -989,6 +1165,37 @@ public final class TermsTest {
     due("it alone", x.all(-1, 0), 5);
     x.send(2, 2, -1);
     due("no BRIDGE left", x.all(-1, 0), 0);
+    allOfSome();
+  }
+
+  private static void allOfSome() {
+    says("for each BRIDGE that is not OPEN (nor FALLEN), whichever of four these are");
+    String four = "trait s; being p 6 s; being q 5 s; being r 4 s; being u 3 s; being v 2 s; being w 1 s; being x 0 s;"
+        + "bridge b 9 0 = s; bridge c 9 0 = s; bridge d 9 0 = s; bridge e 9 0 = s;";
+    for (int open = 0; open < 16; open++) {
+      FirstOver x = Checks.of(four);
+      int left = 0;
+      for (int bridge = 0; bridge < 4; bridge++) {
+        if ((open >> bridge & 1) != 0) {
+          x.send(bridge, bridge, -1);
+        } else {
+          left++;
+        }
+      }
+      // The cheapest are 0, 1, 2, 3; of alike ones the first BEING (who costs most) is first.
+      due("all(-1, 0)", x.all(-1, 0), left * (left - 1) / 2);
+      int being = 7 - left;
+      for (int bridge = 0; bridge < 4; bridge++) {
+        boolean isOpen = (open >> bridge & 1) != 0;
+        due("all(" + bridge + ", 0) of " + open, x.all(bridge, 0), isOpen ? -3 : being);
+        due("all(" + bridge + ", 1) of " + open, x.all(bridge, 1), isOpen ? -3 : 9);
+        being += isOpen ? 0 : 1;
+      }
+      says("behind a text of more BRIDGES");
+      Checks.put(x, "trait s; being p 1 s; being q 1 s; bridge b 9 0 = s; bridge c 9 0 = s;");
+      due("read()", x.read(), 0);
+      isAll(x, 2, 0, 9, 1, 9);
+    }
   }
 
   private static void bar() {
