@@ -1571,6 +1571,9 @@ public final class FirstOver {
 
     private final int[] tryBeing = new int[MOST_BRIDGES];
     private final int[] tryWay = new int[MOST_BRIDGES];
+    /** By a BEING and a WAY (none first): whether it is the one to look at for its set. */
+    private final boolean[] isWorth = new boolean[MOST_PAIRS];
+
     private final int[] price = new int[MOST_BEINGS];
     /**
      * By a BRIDGE and those who are left (bits): what it and those behind it cost at least, were
@@ -1620,9 +1623,34 @@ public final class FirstOver {
         }
       }
       if (atLeast[then.there] < TOO_MUCH) {
+        lookUpWays(text);
         choose(text, 0, 0);
       }
       return leastLost < TOO_MUCH;
+    }
+
+    private void lookUpWays(Text text) {
+      for (int being = 0; being < text.beings; being++) {
+        for (int way = NONE; way < text.ways; way++) {
+          isWorth[pairOf(being, way)] = isFirstToItsSet(text, being, way);
+        }
+      }
+    }
+
+    private static int pairOf(int being, int way) {
+      return being * (MOST_WAYS + 1) + way + 1;
+    }
+
+    /** No other WAY makes the same set of the BEING for less, or for as much and told ahead. */
+    private static boolean isFirstToItsSet(Text text, int being, int way) {
+      for (int other = NONE; other < text.ways; other++) {
+        int more = text.costOf(other) - text.costOf(way);
+        boolean isAhead = more < 0 || more == 0 && other < way;
+        if (isAhead && text.setOf(being, other) == text.setOf(being, way)) {
+          return false;
+        }
+      }
+      return true;
     }
 
     private void lookUpPrices(Text text, int bridge) {
@@ -1666,7 +1694,8 @@ public final class FirstOver {
         for (int way = NONE; way < text.ways && then.isThere(being); way++) {
           int lostThen = lost + text.loss[being] + text.costOf(way);
           int set = text.setOf(being, way);
-          if (lostThen + behind < leastLost && then.takes(text, bridge, set)) {
+          boolean isBetter = isWorth[pairOf(being, way)] && lostThen + behind < leastLost;
+          if (isBetter && then.takes(text, bridge, set)) {
             tryBeing[bridge] = being;
             tryWay[bridge] = way;
             chooseBehind(text, bridge, lostThen, set);

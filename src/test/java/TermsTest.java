@@ -1149,6 +1149,17 @@ public final class TermsTest {
     isAll(Checks.of("trait s; being p 2 s; being q 2 s; being r 2 s; way v 0; way w 0;" + two), 4, 0, 9, 1, 9);
     isAll(Checks.of("trait s; being p 2; being q 2; being r 2 s; way v 0 gives s; way w 0 gives s;" + two), 4, 0, 0, 1, 0);
     isAll(Checks.of("trait s; being p 2; being q 3; being r 2; way v 1 gives s; way w 1 gives s;" + two), 6, 0, 0, 2, 0);
+    for (int one = 0; one < 5; one++) {
+      for (int other = 0; other < 5; other++) {
+        String ways = "way v " + one + " gives s; way w " + other + " gives s;";
+        int least = 5 + Math.min(one, other);
+        int way = other < one ? 1 : 0;
+        isAll(Checks.of("trait s; being p 5;" + ways + "bridge b 9 0 = s;"), least, 0, way);
+        isAll(Checks.of("trait s; being p 5; being q 5;" + ways + two), 2 * least, 0, way, 1, way);
+        isAll(Checks.of("trait s; being p 5 s;" + ways + "bridge b 9 0 = s;"), 5, 0, 9);
+        isCheap(Checks.of("trait s; being p 5;" + ways + "bridge b 9 0 = s;"), 0, least, 0, way);
+      }
+    }
     says("four BRIDGES");
     isAll(Checks.of("trait s; trait a; trait b; being p 1 a; being q 2 b; being r 3 a b; being u 4; being v 90 s a b;"
         + "bridge c 9 0 = not s; bridge d 9 0 = not s; bridge e 9 0 = not s; bridge f 9 0 = a or b;"), 10,
