@@ -1395,14 +1395,11 @@ public final class FirstOver {
       loseStones(bridge, 1);
     }
 
-    /** Answers whether he has room for it. */
-    boolean learn(int set) {
-      if (learntCount >= learnt.length) {
-        return false;
+    void learn(int set) {
+      if (learntCount < learnt.length) {
+        learnt[learntCount] = set;
+        learntCount++;
       }
-      learnt[learntCount] = set;
-      learntCount++;
-      return true;
     }
 
     void loseStones(int bridge, int many) {
