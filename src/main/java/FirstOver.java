@@ -777,14 +777,14 @@ public final class FirstOver {
       }
       if (fits) {
         fault = notedFault;
-        place = notedPlace;
       }
+      // Nothing is passed behind what was refused, so that it is still the TOKEN here.
+      place = fits ? notedPlace : tape.places[at];
       return fault;
     }
 
     private boolean refuse(int what) {
       fault = what;
-      place = tape.places[at];
       return false;
     }
 
@@ -798,7 +798,8 @@ public final class FirstOver {
     /** Goes on behind a TOKEN of that kind, if there is room for it. */
     private boolean pass(int wanted) {
       if (kind != wanted || at >= MOST_TOKENS) {
-        return refuse(kind != wanted ? SYNTAX : ROOM);
+        fault = kind != wanted ? SYNTAX : ROOM;
+        return false;
       }
       at++;
       kind = tape.kinds[at];

@@ -1,4 +1,9 @@
+import java.util.ArrayList;
+import java.util.Collections;
+import java.util.List;
 import java.util.Random;
+import java.util.regex.MatchResult;
+import java.util.regex.Pattern;
 
 /** Runs of calls by chance (always the same ones), on the class and on the model. */
 public final class ModelTest {
@@ -79,7 +84,7 @@ public final class ModelTest {
   }
 
   private String text() {
-    StringBuilder text = new StringBuilder();
+    List<String> tells = new ArrayList<>();
     int traits = 1 + up(chance.nextInt(8) == 0 ? 8 : 7);
     int beings = up(chance.nextInt(8) == 0 ? 8 : 7);
     int ways = up(chance.nextInt(8) == 0 ? 5 : 4);
@@ -88,32 +93,54 @@ public final class ModelTest {
       ways = Math.min(ways, 2);
       beings = Math.min(beings, 5);
     }
-    for (int i = 0; i < traits; i++) {
-      text.append("trait ").append(i < 8 ? TRAITS[i] : "more").append("; ");
-    }
-    int known = Math.min(8, traits);
+    // Some TRAITS are told behind what has none of them.
+    int known = Math.min(8, chance.nextInt(3) == 0 ? 1 + up(traits - 1) : traits);
     for (int i = 0; i < beings; i++) {
-      text.append("being p").append((char) ('a' + i)).append(' ').append(loss());
-      for (int trait = 0; trait < known; trait++) {
-        if (chance.nextInt(trait == 0 ? 4 : 3) == 0) {
-          text.append(' ').append(TRAITS[trait]);
-        }
-      }
-      text.append(";");
+      tells.add(being(i, known));
     }
     for (int i = 0; i < ways; i++) {
-      text.append("way w").append((char) ('a' + i)).append(' ').append(loss());
-      for (int changes = up(3); changes > 0; changes--) {
-        text.append(chance.nextBoolean() ? " gives " : " drops ").append(TRAITS[up(known - 1)]);
-      }
-      text.append(";\n");
+      tells.add(way(i, known));
     }
     for (int i = 0; i < bridges; i++) {
-      text.append("bridge b").append((char) ('a' + i)).append(' ');
-      text.append(chance.nextInt(3) == 0 ? "1" : chance.nextInt(5) == 0 ? "98" : 1 + up(20));
-      text.append(' ').append(number(99)).append('=').append(clause(known, 3)).append(';');
+      tells.add(bridge(i, known));
     }
-    return text.append(laws()).toString();
+    if (chance.nextInt(3) == 0) {
+      Collections.shuffle(tells, chance);
+    }
+    tells.addAll(chance.nextInt(3) == 0 ? up(tells.size()) : tells.size(), laws());
+    for (int i = 0, from = 0; i < traits; i++) {
+      from = i < known ? i : from + 1 + up(Math.max(0, tells.size() - from - 1));
+      tells.add(Math.min(from, tells.size()), "trait " + (i < 8 ? TRAITS[i] : "more") + "; ");
+    }
+    return String.join("", tells);
+  }
+
+  private String being(int number, int known) {
+    StringBuilder text = new StringBuilder("being p");
+    text.append((char) ('a' + number)).append(' ').append(loss());
+    for (int trait = 0; trait < known; trait++) {
+      if (chance.nextInt(trait == 0 ? 4 : 3) == 0) {
+        text.append(' ').append(TRAITS[trait]);
+      }
+    }
+    return text.append(";").toString();
+  }
+
+  private String way(int number, int known) {
+    StringBuilder text = new StringBuilder("way w");
+    text.append((char) ('a' + number)).append(' ').append(loss());
+    for (int changes = up(3); changes > 0; changes--) {
+      text.append(chance.nextBoolean() ? " gives " : " drops ").append(TRAITS[up(known - 1)]);
+    }
+    return text.append(";\n").toString();
+  }
+
+  private String bridge(int number, int known) {
+    StringBuilder text = new StringBuilder("bridge b");
+    text.append((char) ('a' + number)).append(' ');
+    text.append(chance.nextInt(3) == 0 ? "1" : chance.nextInt(5) == 0 ? "98" : 1 + up(20));
+    text.append(' ').append(number(99)).append('=').append(clause(known, 3)).append(';');
+    return text.toString();
   }
 
   private String loss() {
@@ -137,26 +164,30 @@ public final class ModelTest {
     }
   }
 
-  private String laws() {
-    StringBuilder text = new StringBuilder();
+  private List<String> laws() {
+    List<String> tells = new ArrayList<>();
     String[] names = {"wears", "mends", "asks"};
     for (String name : names) {
       for (int many = chance.nextInt(5) == 0 ? 2 : up(1); many > 0; many--) {
-        text.append(name).append(" = ");
-        for (int ifs = chance.nextInt(3) == 0 ? up(4) : 0; ifs > 0; ifs--) {
-          text.append("if ").append(sum(2)).append('<').append(sum(2));
-          text.append(" then ").append(sum(1)).append(" else ");
-        }
-        text.append(sum(3)).append("; ");
+        tells.add(name + " = " + law() + "; ");
       }
     }
     if (chance.nextBoolean()) {
-      text.append("storm ").append(up(chance.nextInt(20) == 0 ? 110 : 100)).append(';');
+      tells.add("storm " + up(chance.nextInt(20) == 0 ? 110 : 100) + ";");
     }
     if (chance.nextBoolean()) {
-      text.append("seed ").append(up(9999)).append(" ;");
+      tells.add("seed " + up(9999) + " ;");
     }
-    return text.toString();
+    return tells;
+  }
+
+  private String law() {
+    StringBuilder text = new StringBuilder();
+    for (int ifs = chance.nextInt(3) == 0 ? up(4) : 0; ifs > 0; ifs--) {
+      text.append("if ").append(sum(2)).append('<').append(sum(2));
+      text.append(" then ").append(sum(1)).append(" else ");
+    }
+    return text.append(sum(3)).toString();
   }
 
   private String sum(int depth) {
@@ -180,7 +211,7 @@ public final class ModelTest {
     for (int many = 1 + up(2); many > 0 && !spoilt.isEmpty(); many--) {
       int at = up(spoilt.length() - 1);
       int to = Math.min(spoilt.length(), at + 1 + up(chance.nextInt(3) == 0 ? 30 : 3));
-      switch (chance.nextInt(4)) {
+      switch (chance.nextInt(8)) {
         case 0:
           spoilt = spoilt.substring(0, at) + spoilt.substring(to);
           break;
@@ -191,8 +222,11 @@ public final class ModelTest {
           String scrap = SCRAPS[up(SCRAPS.length - 1)];
           spoilt = spoilt.substring(0, at) + " " + scrap + " " + spoilt.substring(at);
           break;
-        default:
+        case 3:
           spoilt = spoilt.substring(0, at) + (char) up(255) + spoilt.substring(at);
+          break;
+        default:
+          spoilt = withOneForAnother(spoilt, chance.nextBoolean() ? "\\b[a-z]+" : "\\b[0-9]+");
           break;
       }
     }
@@ -203,6 +237,18 @@ public final class ModelTest {
       spoilt = (part.equals("1+") ? "wears=" : "") + part.repeat(room / part.length()) + spoilt;
     }
     return spoilt;
+  }
+
+  /** A word (or number) stands where another one was: the text mostly goes on as SYNTAX has it. */
+  private String withOneForAnother(String text, String sort) {
+    List<MatchResult> all = Pattern.compile(sort).matcher(text).results().toList();
+    if (all.isEmpty()) {
+      return text;
+    }
+    MatchResult one = all.get(up(all.size() - 1));
+    String other = all.get(up(all.size() - 1)).group();
+    String more = sort.contains("9") && chance.nextBoolean() ? number(120) : other;
+    return text.substring(0, one.start()) + more + text.substring(one.end());
   }
 
   // ---- calls

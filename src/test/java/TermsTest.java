@@ -946,6 +946,16 @@ public final class TermsTest {
       due("the last set", y.holds(0, (1 << traits) - 1), 1);
       due("no such set", y.holds(0, 1 << traits), -1);
     }
+    // TRAITS that are told behind the BRIDGES make more sets, for which their CLAUSES hold as well.
+    FirstOver z = good("trait a; bridge p 1 0 = not a; trait c; bridge q 1 0 = not a or a and c; trait d;");
+    due("behind it: half the sets", z.bridge(0, 6), 4);
+    due("behind it: three of four", z.bridge(1, 6), 6);
+    due("behind it: both", z.alike(0, 1, 1), 4);
+    due("behind it: not alike", z.alike(0, 1, 0), 0);
+    for (int set = 0; set < 8; set++) {
+      due("behind it: holds(0, " + set + ")", z.holds(0, set), set % 2 == 0 ? 1 : 0);
+      due("behind it: holds(1, " + set + ")", z.holds(1, set), set % 2 == 0 || set % 4 == 3 ? 1 : 0);
+    }
   }
 
   private static void sent() {
